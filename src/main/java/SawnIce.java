@@ -513,11 +513,7 @@ public final class SawnIce {
             lengths[block] = length;
             masses[block] = (float) length * (float) thickness * (kind == SLAB ? 1.0f : 0.5f);
             states[block] = IN_RACK;
-            columns[block] = -1;
-            courses[block] = -1;
-            joints[block] = 0;
             places[block] = place;
-            causes[block] = 0;
             racks[rack * PLACES + place] = block;
             pondLeft -= length;
             sawn++;
@@ -1369,8 +1365,8 @@ public final class SawnIce {
     }
 
     /**
-     * The bits of numbers, found by arithmetic. Masses, loads and their means are 0 or a normal positive number, far
-     * from the ends of the range, so that halving, doubling and the mantissa's product are exact.
+     * The bits of numbers, found by arithmetic. What is told is 0 or a normal positive number, far from the ends of the
+     * range, so that halving, doubling and the mantissa's product are exact.
      */
     private static final class Bits {
         static int ofFloat(float value) {
@@ -1390,8 +1386,9 @@ public final class SawnIce {
             return (exponent << 23) | (int) ((rest - 1.0f) * 8388608.0f);
         }
 
+        /** Of a mean of masses, none of which is below 1 on the wall. */
         static long ofDouble(double value) {
-            if (!(value > 0.0)) {
+            if (!(value >= 1.0)) {
                 return 0L;
             }
             double rest = value;
@@ -1399,10 +1396,6 @@ public final class SawnIce {
             for (int i = 0; i < 1023 && rest >= 2.0; i++) {
                 rest = rest * 0.5;
                 exponent++;
-            }
-            for (int i = 0; i < 1022 && rest < 1.0; i++) {
-                rest = rest * 2.0;
-                exponent--;
             }
             return (exponent << 52) | (long) ((rest - 1.0) * 4503599627370496.0);
         }
