@@ -47,7 +47,7 @@ public final class SawnIce {
     private final Palace palace = new Palace();
     private final Palace before = new Palace();
     private final Palace snapshot = new Palace();
-    private final Works works = new Works(palace);
+    private final Works works = new Works();
     private final Ahead ahead = new Ahead();
     private final Loads loads = new Loads();
     private final Outline outline = new Outline();
@@ -61,37 +61,37 @@ public final class SawnIce {
     // Weather and visitors.
 
     public int heat(int hour, int temperature) throws IndexOutOfBoundsException, IllegalArgumentException {
-        permit(works.faultOf('t', hour, temperature, 0));
-        return works.perform('t', hour, temperature, 0);
+        permit(works.faultOf(palace, 't', hour, temperature, 0));
+        return works.perform(palace, 't', hour, temperature, 0);
     }
 
     public int visit(int visitors) throws IllegalArgumentException {
-        permit(works.faultOf('v', visitors, 0, 0));
-        return works.perform('v', visitors, 0, 0);
+        permit(works.faultOf(palace, 'v', visitors, 0, 0));
+        return works.perform(palace, 'v', visitors, 0, 0);
     }
 
     // Blocks and hours.
 
     public int saw(int kind, int length, int rack)
             throws IndexOutOfBoundsException, IllegalArgumentException, UnsupportedOperationException {
-        permit(works.faultOf('s', kind, length, rack));
-        return works.perform('s', kind, length, rack);
+        permit(works.faultOf(palace, 's', kind, length, rack));
+        return works.perform(palace, 's', kind, length, rack);
     }
 
     public int lay(int block, int column, int course)
             throws IndexOutOfBoundsException, UnsupportedOperationException {
-        permit(works.faultOf('l', block, column, course));
-        return works.perform('l', block, column, course);
+        permit(works.faultOf(palace, 'l', block, column, course));
+        return works.perform(palace, 'l', block, column, course);
     }
 
     public int take(int block) throws IndexOutOfBoundsException, UnsupportedOperationException {
-        permit(works.faultOf('x', block, 0, 0));
-        return works.perform('x', block, 0, 0);
+        permit(works.faultOf(palace, 'x', block, 0, 0));
+        return works.perform(palace, 'x', block, 0, 0);
     }
 
     public int pass(int hours) throws IllegalArgumentException {
-        permit(works.faultOf('h', hours, 0, 0));
-        return works.perform('h', hours, 0, 0);
+        permit(works.faultOf(palace, 'h', hours, 0, 0));
+        return works.perform(palace, 'h', hours, 0, 0);
     }
 
     // What there is.
@@ -233,9 +233,9 @@ public final class SawnIce {
         before.copyFrom(palace);
         int fault = NO_FAULT;
         for (int i = 0; i < orders.number() && fault == NO_FAULT; i++) {
-            fault = works.faultOf(orders.signOf(i), orders.firstOf(i), orders.secondOf(i), orders.thirdOf(i));
+            fault = works.faultOf(palace, orders.signOf(i), orders.firstOf(i), orders.secondOf(i), orders.thirdOf(i));
             if (fault == NO_FAULT) {
-                works.perform(orders.signOf(i), orders.firstOf(i), orders.secondOf(i), orders.thirdOf(i));
+                works.perform(palace, orders.signOf(i), orders.firstOf(i), orders.secondOf(i), orders.thirdOf(i));
             }
         }
         if (fault != NO_FAULT) {
@@ -1000,39 +1000,34 @@ public final class SawnIce {
 
     /** The changes: what stands against an order, with the reason of the latest refusal, and what it does. */
     private static final class Works {
-        private final Palace palace;
         private final Hours hours = new Hours();
         int reason = 0;
         int detail = 0;
 
-        Works(Palace palace) {
-            this.palace = palace;
-        }
-
-        int faultOf(char order, int first, int second, int third) {
+        int faultOf(Palace palace, char order, int first, int second, int third) {
             switch (order) {
                 case 't':
                     return faultOfTemperature(first, second);
                 case 'v':
                     return first < 0 || first > MOST_VISITORS ? BAD_ARGUMENT : NO_FAULT;
                 case 's':
-                    return faultOfSawing(first, second, third);
+                    return faultOfSawing(palace, first, second, third);
                 case 'l':
-                    return faultOfLaying(first, second, third);
+                    return faultOfLaying(palace, first, second, third);
                 case 'x':
-                    return faultOfTaking(first);
+                    return faultOfTaking(palace, first);
                 default:
                     return first < 1 || first > MOST_HOURS ? BAD_ARGUMENT : NO_FAULT;
             }
         }
 
         /** Only behind faultOf, when it found none. */
-        int perform(char order, int first, int second, int third) {
+        int perform(Palace palace, char order, int first, int second, int third) {
             switch (order) {
                 case 't':
-                    return setTemperature(first, second);
+                    return setTemperature(palace, first, second);
                 case 'v':
-                    return setVisitors(first);
+                    return setVisitors(palace, first);
                 case 's':
                     return palace.addBlock(first, second, third);
                 case 'l':
@@ -1059,7 +1054,7 @@ public final class SawnIce {
             return temperature < COLDEST || temperature > HOTTEST ? BAD_ARGUMENT : NO_FAULT;
         }
 
-        private int setTemperature(int hour, int temperature) {
+        private int setTemperature(Palace palace, int hour, int temperature) {
             int old = palace.temperatureAt(hour);
             if (Palace.isHour(hour)) {
                 palace.temperatures[hour] = temperature;
@@ -1067,13 +1062,13 @@ public final class SawnIce {
             return old;
         }
 
-        private int setVisitors(int visitors) {
+        private int setVisitors(Palace palace, int visitors) {
             int old = palace.visitors;
             palace.visitors = visitors;
             return old;
         }
 
-        private int faultOfSawing(int kind, int length, int rack) {
+        private int faultOfSawing(Palace palace, int kind, int length, int rack) {
             if (!Palace.isRack(rack)) {
                 return NO_SUCH_INDEX;
             }
@@ -1095,7 +1090,7 @@ public final class SawnIce {
             return rack != kind ? refuse(5, rack) : NO_FAULT;
         }
 
-        private int faultOfLaying(int block, int column, int course) {
+        private int faultOfLaying(Palace palace, int block, int column, int course) {
             if (!palace.isSawn(block) || !Palace.isColumn(column) || !Palace.isCourse(course)) {
                 return NO_SUCH_INDEX;
             }
@@ -1116,7 +1111,7 @@ public final class SawnIce {
             return supported * 2 < length ? refuse(9, supported) : NO_FAULT;
         }
 
-        private int faultOfTaking(int block) {
+        private int faultOfTaking(Palace palace, int block) {
             if (!palace.isSawn(block)) {
                 return NO_SUCH_INDEX;
             }
