@@ -6,26 +6,35 @@ final class Check {
 
     private static int wrong = 0;
     private static int looked = 0;
+    private static String sentence = "";
 
     private Check() {
+    }
+
+    /** What is looked at from here on is about this sentence of the document. */
+    static void about(String words) {
+        sentence = "[" + words + "] ";
     }
 
     static void is(String what, Object got, Object due) {
         looked++;
         if (!got.equals(due)) {
             wrong++;
-            System.out.println(what + " answered " + got + ", due is " + due);
+            System.out.println(sentence + what + " answered " + got + ", due is " + due);
         }
     }
 
     static void fails(String what, Class<? extends RuntimeException> due, Call call) {
-        Object got;
+        is(what, outcome(call), due.getName());
+    }
+
+    /** The answer of a call, or the name of what it throws. */
+    static Object outcome(Call call) {
         try {
-            got = call.answer();
+            return call.answer();
         } catch (RuntimeException e) {
-            got = e.getClass().getName();
+            return e.getClass().getName();
         }
-        is(what, got, due.getName());
     }
 
     static void end(String test) {

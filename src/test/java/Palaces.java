@@ -27,6 +27,40 @@ final class Palaces {
         }
     }
 
+    /** Lets one hour go by at this temperature; the answer is how many blocks are gone. */
+    static int hour(SawnIce x, int temperature) {
+        x.heat(x.account(0) % 24, temperature);
+        return x.pass(1);
+    }
+
+    /** A new pond with ice of this thickness, all hours of the day at -5. */
+    static SawnIce iceOf(int thickness) {
+        SawnIce x = new SawnIce();
+        while (x.account(1) != thickness) {
+            int missing = thickness - x.account(1);
+            int hour = x.account(0) % 24;
+            hour(x, missing > 0 ? -5 * Math.min(6, missing) : 5 * Math.min(4, -missing));
+            x.heat(hour, -5);
+        }
+        return x;
+    }
+
+    /** A new object at a clock. */
+    static SawnIce atClock(int clock) {
+        SawnIce x = new SawnIce();
+        while (x.account(0) < clock) {
+            x.pass(Math.min(48, clock - x.account(0)));
+        }
+        return x;
+    }
+
+    /** Slabs of 1 on one another, from the ground up to this height. */
+    static void tower(SawnIce x, int column, int height) {
+        for (int course = 0; course < height; course++) {
+            put(x, 0, 1, column, course);
+        }
+    }
+
     /** Saws and lays a block; the answer is its number. */
     static int put(SawnIce x, int kind, int length, int column, int course) {
         int block = x.saw(kind, length, kind);
