@@ -289,7 +289,7 @@ public final class AheadEdgesTest {
         Check.is("only what is on the wall", x.meanBits(), Double.doubleToLongBits((double) x.mass(1)));
         Doc.promise(29, "their sum, by their numbers, as doubles, beginning with 0.0, divided by their number as a double.");
         SawnIce y = house();
-        for (int hour = 0; hour < 30; hour++) {
+        for (int hour = 0; hour < 24; hour++) {
             double sum = 0.0;
             int number = 0;
             for (int block = 0; block < y.account(4); block++) {

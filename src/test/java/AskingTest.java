@@ -168,7 +168,7 @@ public final class AskingTest {
 
     private static void loadAgain() {
         SawnIce x = bricks();
-        for (int hour = 0; hour < 12; hour++) {
+        for (int hour = 0; hour < 6; hour++) {
             for (int block = 0; block < x.account(4); block++) {
                 if (x.sign(block) == 'w') {
                     Check.is("11 both ways, block " + block, x.loadAgain(block), x.load(block, false));

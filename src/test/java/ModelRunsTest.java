@@ -7,6 +7,7 @@ public final class ModelRunsTest {
     private SawnIce ice;
     private Model model;
     private int style;
+    private int calls = 0;
     private final StringBuilder told = new StringBuilder();
     private static final int[] seen = new int[5];
 
@@ -45,9 +46,9 @@ public final class ModelRunsTest {
     }
 
     private boolean isAlike(int run) {
-        for (int i = 0; i < CALLS; i++) {
+        while (calls < CALLS) {
             if (!next()) {
-                System.out.println("run " + run + ", call " + (i + 1) + ": " + told);
+                System.out.println("run " + run + ", call " + calls + ": " + told);
                 return false;
             }
         }
@@ -58,6 +59,10 @@ public final class ModelRunsTest {
     }
 
     private boolean same(String call, Call one, Call other) {
+        if (calls == CALLS) {
+            return true;
+        }
+        calls++;
         Object got = answerOf(one);
         Object due = answerOf(other);
         told.append(call).append(" -> ").append(got).append("; ");

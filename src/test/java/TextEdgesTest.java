@@ -263,6 +263,7 @@ public final class TextEdgesTest {
                 String start = before.startsWith("s") ? text.replace("l1@", "l2@") : text;
                 String was = Palaces.all(x);
                 Check.fails(before + start, ARGUMENT, () -> Palaces.read(x, before + start));
+                Check.is("no error in " + before + start, x.errorPosition(), -1);
                 Check.is("nothing is done of " + before + start, Palaces.all(x), was);
                 Check.fails("no reason by " + before + start, NONE, () -> x.refusal(false));
             }
@@ -333,10 +334,9 @@ public final class TextEdgesTest {
 
     private static void numberOfOrders() {
         Doc.promise(24, "Returns the number of orders.");
-        SawnIce x = new SawnIce();
         StringBuilder text = new StringBuilder("v1");
         for (int number = 1; number <= 20; number++) {
-            Check.is("orders", Palaces.read(x, text.toString()), number);
+            Check.is("orders", Palaces.read(new SawnIce(), text.toString()), number);
             text.append(";v2");
         }
     }

@@ -264,20 +264,31 @@ public final class TextsTest {
     private static void undo() {
         SawnIce x = new SawnIce();
         Check.fails("30 no change", STATE, () -> x.undo());
-        String[] states = new String[8];
+        for (int made = 0; made <= 8; made++) {
+            SawnIce y = changed(8);
+            for (int left = 7; left >= made; left--) {
+                Check.is("30 left", y.undo(), left);
+            }
+            Check.is("30 as before " + made, Palaces.all(y), Palaces.all(changed(made)));
+        }
+        SawnIce z = changed(8);
+        for (int left = 7; left >= 0; left--) {
+            z.undo();
+        }
+        Check.fails("30 no more", STATE, () -> z.undo());
+        Check.is("30 the temperature too", z.heat(3, 0), -5);
+    }
+
+    /** An object on which as many of eight changes were made. */
+    private static SawnIce changed(int number) {
+        SawnIce x = new SawnIce();
         Runnable[] changes = {() -> x.heat(0, -5), () -> x.visit(0), () -> x.saw(0, 4, 0), () -> x.saw(1, 1, 1),
             () -> x.lay(0, 3, 0), () -> x.take(1), () -> x.pass(30), () -> Palaces.read(x, "s01@0;v1;t3=3")};
-        for (int i = 0; i < 8; i++) {
-            states[i] = Palaces.all(x);
+        for (int i = 0; i < number; i++) {
             changes[i].run();
             Check.is("30 changes", x.account(14), i + 1);
         }
-        for (int i = 7; i >= 0; i--) {
-            Check.is("30 left", x.undo(), i);
-            Check.is("30 as before " + i, Palaces.all(x), states[i]);
-        }
-        Check.fails("30 no more", STATE, () -> x.undo());
-        Check.is("30 the temperature too", x.heat(3, 0), -5);
+        return x;
     }
 
     private static void undoForgets() {

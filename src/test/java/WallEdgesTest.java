@@ -372,10 +372,10 @@ public final class WallEdgesTest {
         // The ground melts away: all the seven courses above fall in the same hour, whatever their numbers.
         SawnIce x = Palaces.iceOf(12);
         Palaces.heatAll(x, 0);
+        int high = x.saw(0, 1, 0);
         Palaces.put(x, 1, 1, 3, 0);
         x.visit(50);
         x.pass(1);
-        int high = x.saw(0, 1, 0);
         for (int course = 1; course <= 6; course++) {
             Palaces.put(x, 0, 1, 3, course);
         }
@@ -383,7 +383,7 @@ public final class WallEdgesTest {
         int beside = Palaces.put(x, 0, 1, 4, 0);
         x.visit(1);
         Check.is("all eight", x.pass(1), 8);
-        Check.is("one melted, seven fallen, the ground stays", Palaces.signs(x), "mfffffffw");
+        Check.is("one melted, seven fallen, the ground stays", Palaces.signs(x), "fmffffffw");
         Check.is("gone from the wall", x.height(3) + " " + x.account(11), "0 1");
         Check.is("on the ground none falls", x.sign(beside), 'w');
     }
@@ -415,9 +415,10 @@ public final class WallEdgesTest {
         Check.is("an empty course above", roomsOf(y, 1), "0 0 -1");
 
         SawnIce z = new SawnIce();
+        z.saw(0, 3, 0);
         Palaces.tower(z, 0, 7);
         Palaces.tower(z, 2, 7);
-        Palaces.put(z, 0, 3, 0, 7);
+        z.lay(0, 0, 7);
         Check.is("under the course 7", roomsOf(z, 6), "1 1 1");
         Check.is("two courses below a roof", roomsOf(z, 5), "0 0 -1");
 
@@ -457,6 +458,13 @@ public final class WallEdgesTest {
             }
             Check.is("roof " + i, roomsOf(x, 0), due[i]);
         }
+        // A roof at either end of the wall has no filled column on its other side.
+        SawnIce ends = new SawnIce();
+        Palaces.put(ends, 0, 2, 1, 0);
+        Palaces.put(ends, 0, 2, 9, 0);
+        Palaces.put(ends, 0, 2, 0, 1);
+        Palaces.put(ends, 0, 2, 10, 1);
+        Check.is("at the ends of the wall", roomsOf(ends, 0), "0 0 -1");
         SawnIce y = new SawnIce();
         Palaces.tower(y, 0, 8);
         Palaces.tower(y, 2, 8);
