@@ -21,6 +21,18 @@ final class Doc {
         says("Promise " + number, sentence);
     }
 
+    /** What stands in a section between two texts. */
+    static String between(String section, String from, String to) {
+        String part = partOf(section);
+        int start = part.indexOf(from);
+        int end = part.indexOf(to, Math.max(start, 0));
+        return start < 0 || end < 0 ? "" : part.substring(start + from.length(), end);
+    }
+
+    static String section(String name) {
+        return partOf(name);
+    }
+
     private static void says(String section, String sentence) {
         Check.about(section + ", \"" + sentence + "\"");
         Check.is("the document says so", partOf(section).contains(sentence), true);

@@ -13,38 +13,10 @@ import java.util.regex.Pattern;
 
 /** The public face, and what LANGUAGE.md rules out as far as words and reflection show it. */
 public final class FaceTest {
-    private static final String[] FACE = {
-        "int heat(int,int) IndexOutOfBoundsException IllegalArgumentException",
-        "int visit(int) IllegalArgumentException",
-        "int saw(int,int,int) IndexOutOfBoundsException IllegalArgumentException UnsupportedOperationException",
-        "int lay(int,int,int) IndexOutOfBoundsException UnsupportedOperationException",
-        "int take(int) IndexOutOfBoundsException UnsupportedOperationException",
-        "int pass(int) IllegalArgumentException",
-        "int blockOf(int,int) IndexOutOfBoundsException IllegalArgumentException",
-        "float mass(int) IndexOutOfBoundsException NoSuchElementException",
-        "int load(int,boolean) IndexOutOfBoundsException NoSuchElementException",
-        "int loadAgain(int) IndexOutOfBoundsException NoSuchElementException",
-        "int at(int,int) IndexOutOfBoundsException",
-        "int height(int) IndexOutOfBoundsException",
-        "boolean isShady(int,int) IndexOutOfBoundsException NoSuchElementException",
-        "char sign(int) IndexOutOfBoundsException",
-        "int rooms(int,int) IndexOutOfBoundsException IllegalArgumentException",
-        "int inRack(int,int) IndexOutOfBoundsException",
-        "int worst() NoSuchElementException",
-        "int goneIn() NoSuchElementException",
-        "int massBits(int,int) IndexOutOfBoundsException IllegalArgumentException",
-        "int safe() NoSuchElementException",
-        "int left(int) IllegalArgumentException",
-        "int append(char) IllegalStateException",
-        "int read() IllegalArgumentException UnsupportedOperationException",
-        "int errorPosition()",
-        "int refusal(boolean) NoSuchElementException",
-        "int account(int) IllegalArgumentException",
-        "boolean isWell()",
-        "long meanBits() ArithmeticException",
-        "int undo() IllegalStateException",
-        "int save()",
-        "int restore() IllegalStateException"};
+    private static final Pattern CALL = Pattern.compile("public ([a-z]+ \\w+\\([^)]*\\)(?: throws [\\w, ]+)?);");
+    private static final Pattern GROUP = Pattern.compile(
+            "Ahead of the calls ((?:`\\w+`(?:, )?)+) the interface says: ([^.]+)\\.");
+    private static final Pattern GROUP_OR_CALL = Pattern.compile("\n    (?:// (.*)|public [a-z]+ (\\w+)\\(.*)");
 
     private static final String[] RULED_OUT = {"\\bimport (?!java\\.util\\.NoSuchElementException;)", "^package\\b",
         "->", "::", "\\bfinally\\b", "\\bcatch\\b", "\\bsynchronized\\b", "\\bassert\\b", "\\bvar\\b", "Exact\\(",
@@ -53,13 +25,32 @@ public final class FaceTest {
 
     public static void main(String[] args) throws Exception {
         face();
+        promises();
+        groups();
+        Check.about("LANGUAGE.md");
         members();
         words();
         Check.end("FaceTest");
     }
 
-    private static void face() {
-        Set<String> due = new TreeSet<>(List.of(FACE));
+    /** The calls of the document's face, as "int heat(int hour, int temperature) throws ..". */
+    private static List<String> callsOfTheDocument() {
+        List<String> calls = new ArrayList<>();
+        Matcher m = CALL.matcher(Doc.section("The public face"));
+        while (m.find()) {
+            calls.add(m.group(1));
+        }
+        return calls;
+    }
+
+    private static void face() throws Exception {
+        String source = Files.readString(Path.of("src/main/java/SawnIce.java")).replaceAll("\\s+", " ");
+        Set<String> due = new TreeSet<>();
+        for (String call : callsOfTheDocument()) {
+            Check.is("the source has " + call, source.contains(" public " + call + " { "), true);
+            due.add(call.replaceAll("(int|boolean|char) \\w+([,)])", "$1$2"));
+        }
+        Check.is("calls in the document", due.size(), 31);
         Set<String> got = new TreeSet<>();
         for (Method m : SawnIce.class.getDeclaredMethods()) {
             if (Modifier.isPublic(m.getModifiers())) {
@@ -71,7 +62,38 @@ public final class FaceTest {
         Check.is("one constructor", constructors.length, 1);
         Check.is("without arguments", constructors[0].getParameterCount(), 0);
         Check.is("public", Modifier.isPublic(constructors[0].getModifiers()), true);
+        Check.is("it throws nothing", constructors[0].getExceptionTypes().length, 0);
         Check.is("final", Modifier.isFinal(SawnIce.class.getModifiers()), true);
+        Check.is("no package", SawnIce.class.getPackageName(), "");
+        Check.is("no class above it", SawnIce.class.getSuperclass() == Object.class, true);
+        Check.is("no interface", SawnIce.class.getInterfaces().length, 0);
+    }
+
+    /** Each promise from the second on is about one call of the face, in the order of the face. */
+    private static void promises() {
+        int promise = 2;
+        for (String call : callsOfTheDocument()) {
+            Doc.promise(promise, "`" + call + "`");
+            promise++;
+        }
+        Check.is("promises", promise, 33);
+    }
+
+    /** The source has its calls in the order of the face, with the document's words ahead of each group. */
+    private static void groups() throws Exception {
+        List<String> due = new ArrayList<>();
+        Matcher group = GROUP.matcher(Doc.section("Terms"));
+        while (group.find()) {
+            due.add(group.group(2) + ".");
+            due.addAll(List.of(group.group(1).replace("`", "").split(", ")));
+        }
+        Check.is("five groups and 31 calls", due.size(), 36);
+        List<String> got = new ArrayList<>();
+        Matcher line = GROUP_OR_CALL.matcher(Files.readString(Path.of("src/main/java/SawnIce.java")));
+        while (line.find()) {
+            got.add(line.group(1) == null ? line.group(2) : line.group(1));
+        }
+        Check.is("the groups of the face", got, due);
     }
 
     private static String told(Method m) {
@@ -81,11 +103,12 @@ public final class FaceTest {
         }
         StringBuilder s = new StringBuilder();
         s.append(m.getReturnType().getName()).append(' ').append(m.getName());
-        s.append('(').append(String.join(",", types)).append(')');
-        for (Class<?> thrown : m.getExceptionTypes()) {
-            s.append(' ').append(thrown.getSimpleName());
+        s.append('(').append(String.join(", ", types)).append(')');
+        List<String> thrown = new ArrayList<>();
+        for (Class<?> type : m.getExceptionTypes()) {
+            thrown.add(type.getSimpleName());
         }
-        return s.toString();
+        return s.append(thrown.isEmpty() ? "" : " throws ").append(String.join(", ", thrown)).toString();
     }
 
     private static void members() {
@@ -117,6 +140,8 @@ public final class FaceTest {
             Check.is("rule 1, not public: " + one.getName(), Modifier.isPublic(one.getModifiers()), false);
             for (Method m : one.getDeclaredMethods()) {
                 Check.is("rule 11, seven parameters: " + m.getName(), m.getParameterCount() <= 7, true);
+                boolean isOther = !Modifier.isPrivate(m.getModifiers()) || !names.contains(m.getName());
+                Check.is("rule 1, another name: " + m.getName(), isOther, true);
             }
         }
     }
